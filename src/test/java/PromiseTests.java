@@ -271,6 +271,8 @@ public final class PromiseTests {
         due(9, "EARNED", x.now(3), 40);
         due(9, "who sleeps now", x.now(4), 5);
         due(9, "how many may be UNDONE", x.now(5), 3);
+        x.feeds(3);
+        due(9, "FED is none of them", x.now(1) * 10 + x.now(2), 94);
         due(9, "now(6)", x.now(6), BAD);
         due(9, "now(-1)", x.now(-1), BAD);
     }

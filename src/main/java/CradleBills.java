@@ -397,35 +397,35 @@ public final class CradleBills {
         }
 
         int loud(int w) {
-            return hasWord(w) ? loudness[w] : 0;
+            return w >= 0 && w < WORDS ? loudness[w] : 0;
         }
 
         int lull(int w) {
-            return hasWord(w) ? lulling[w] : 0;
+            return w >= 0 && w < WORDS ? lulling[w] : 0;
         }
 
         int worth(int m) {
-            return hasMotion(m) ? worths[m] : 0;
+            return m >= 0 && m < MOTIONS ? worths[m] : 0;
         }
 
         int length(int m) {
-            return hasMotion(m) ? lengths[m] : 0;
+            return m >= 0 && m < MOTIONS ? lengths[m] : 0;
         }
 
         int wordAt(int m, int k) {
-            return hasMotion(m) && k >= 0 && k < READ ? texts[m * READ + k] : 0;
+            return m >= 0 && m < MOTIONS && k >= 0 && k < READ ? texts[m * READ + k] : 0;
         }
 
         int depth(int b) {
-            return hasBaby(b) ? depths[b] : 0;
+            return b >= 0 && b < BABIES ? depths[b] : 0;
         }
 
         int ears(int b) {
-            return hasBaby(b) ? earSizes[b] : 0;
+            return b >= 0 && b < BABIES ? earSizes[b] : 0;
         }
 
         int hunger(int b) {
-            return hasBaby(b) ? hungers[b] : 0;
+            return b >= 0 && b < BABIES ? hungers[b] : 0;
         }
     }
 
@@ -559,7 +559,7 @@ public final class CradleBills {
 
         void beginAsTold(House house) {
             Arrays.fill(row, 0);
-            for (int b = 0; b < BABIES; b++) {
+            for (int b = 0; b < house.babies && b < BABIES; b++) {
                 row[b] = house.depth(b);
             }
         }
@@ -576,16 +576,12 @@ public final class CradleBills {
             }
         }
 
-        private static boolean isCradle(int b) {
-            return b >= 0 && b < BABIES;
-        }
-
         int depth(int b) {
-            return isCradle(b) ? row[b] : 0;
+            return b >= 0 && b < BABIES ? row[b] : 0;
         }
 
         int fed(int b) {
-            return isCradle(b) ? row[FED + b] : 0;
+            return b >= 0 && b < BABIES ? row[FED + b] : 0;
         }
 
         int minute() {
@@ -613,13 +609,13 @@ public final class CradleBills {
         }
 
         void setDepth(int b, int depth) {
-            if (isCradle(b)) {
+            if (b >= 0 && b < BABIES) {
                 row[b] = depth;
             }
         }
 
         void setFedNow(int b) {
-            if (isCradle(b)) {
+            if (b >= 0 && b < BABIES) {
                 row[FED + b] = row[MINUTE];
             }
         }
@@ -727,7 +723,7 @@ public final class CradleBills {
         }
 
         boolean wouldCarry(int m, int b) {
-            return depthAfter(m, b, now.depth(b)) > 0;
+            return depthAfterLouder(m, b, now.depth(b), 0, 0) > 0;
         }
 
         int wakesAt(int m, int b) {

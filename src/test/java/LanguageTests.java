@@ -8,7 +8,9 @@ import java.util.ArrayList;
 import java.util.Arrays;
 import java.util.HashSet;
 import java.util.List;
+import java.util.Map;
 import java.util.Set;
+import java.util.TreeMap;
 import java.util.TreeSet;
 import java.util.regex.Matcher;
 import java.util.regex.Pattern;
@@ -24,6 +26,7 @@ public final class LanguageTests {
             "int keep(int)", "int back(int)", "int count(int)", "long trace()");
     private static final Set<String> CONSTANTS = Set.of("BAD", "STATE", "FULL", "NONE", "NO");
     private static final int MOST_LINES = 60, MOST_PARAMETERS = 7, MOST_CLASSES = 12, MOST_FIELDS = 20;
+    private static final int MOST_CALLS_DEEP = 8;
 
     private static int wrong = 0;
 
@@ -118,21 +121,59 @@ public final class LanguageTests {
         while (imports.find()) {
             must(4, Set.of("java.util.Arrays", "java.util.ArrayList", "java.util.List").contains(imports.group(1)), imports.group());
         }
-        methodLengths(code.split("\n", -1));
+        callDepths(methodBodies(code.split("\n", -1)));
     }
 
-    /** A method begins with a line that is indented by 4 or 8 and ends in "{", and ends with its "}". */
-    private static void methodLengths(String[] lines) {
+    /**
+     * A method begins with a line that is indented by 4 or 8 and ends in "{", and ends with its "}".
+     * Methods of one name in several classes are taken for one, so a chain of calls may seem longer
+     * than it is, but never shorter.
+     */
+    private static Map<String, String> methodBodies(String[] lines) {
+        Map<String, String> bodies = new TreeMap<>();
         for (int from = 0; from < lines.length; from++) {
-            Matcher head = Pattern.compile("^( {4}| {8})[a-zA-Z].*\\) \\{$").matcher(lines[from]);
+            Matcher head = Pattern.compile("^( {4}| {8})[a-zA-Z].*?(\\w+)\\(.*\\) \\{$").matcher(lines[from]);
             if (!head.matches()) {
                 continue;
             }
             int to = from;
+            StringBuilder body = new StringBuilder();
             while (to < lines.length && !lines[to].equals(head.group(1) + "}")) {
                 to++;
+                body.append(to < lines.length ? lines[to] : "").append('\n');
             }
             must(11, to - from < MOST_LINES, "a long method: " + lines[from].trim());
+            bodies.merge(head.group(2), body.toString(), String::concat);
         }
+        return bodies;
+    }
+
+    private static void callDepths(Map<String, String> bodies) {
+        must(11, bodies.size() > FACE.size(), "the methods were not found in the source");
+        for (String name : bodies.keySet()) {
+            List<String> chain = longestChain(name, bodies, new ArrayList<>());
+            must(11, chain.size() <= MOST_CALLS_DEEP, "calls too deep: " + chain);
+        }
+    }
+
+    /** A method that stands in the chain already is recursion, which another rule bounds. */
+    private static List<String> longestChain(String name, Map<String, String> bodies, List<String> open) {
+        List<String> longest = List.of();
+        open.add(name);
+        Matcher call = Pattern.compile("\\b(?<!new )(\\w+)\\(").matcher(bodies.get(name));
+        Set<String> called = new TreeSet<>();
+        while (call.find()) {
+            called.add(call.group(1));
+        }
+        for (String next : called) {
+            if (bodies.containsKey(next) && !open.contains(next)) {
+                List<String> chain = longestChain(next, bodies, open);
+                longest = chain.size() > longest.size() ? chain : longest;
+            }
+        }
+        open.remove(open.size() - 1);
+        List<String> whole = new ArrayList<>(List.of(name));
+        whole.addAll(longest);
+        return whole;
     }
 }

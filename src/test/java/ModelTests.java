@@ -1,3 +1,5 @@
+import java.lang.reflect.Method;
+import java.lang.reflect.Modifier;
 import java.math.BigInteger;
 import java.util.ArrayDeque;
 import java.util.ArrayList;
@@ -12,6 +14,9 @@ import java.util.regex.Pattern;
 public final class ModelTests {
     private static final int RUNS = 6000;
     private static final int CALLS = 512;
+    private static final int SWEPT = 6, CALLS_SWEPT = 300;
+    private static final int[] AT_EDGES = {Integer.MIN_VALUE, -1000000, -10, -5, -2, -1, 0, 1, 2, 3, 4, 5, 6, 7, 10, 11, 31, 32, 33, 255, 256,
+        Integer.MAX_VALUE};
     private static final int BAD = -1, STATE = -2, FULL = -3, NONE = -9, NO = -1000000;
 
     private static int wrong = 0;
@@ -22,10 +27,94 @@ public final class ModelTests {
         for (int run = 0; run < RUNS && wrong == 0; run++) {
             asked += oneRun(run, faults);
         }
+        for (int seed = 0; seed < SWEPT && wrong == 0; seed++) {
+            asked += sweep(seed);
+        }
         System.out.println(wrong == 0 ? asked + " answers are as due; texts told: " + faults[0]
                 + ", at fault: " + faults[1] : "the model answers otherwise");
         if (wrong != 0) {
             System.exit(1);
+        }
+    }
+
+    /** Every call with every row of these numbers, in a house in which something has been done. */
+    private static long sweep(int seed) {
+        long asked = 0;
+        for (Method method : CradleBills.class.getDeclaredMethods()) {
+            if (Modifier.isPublic(method.getModifiers()) && !method.getName().equals("trace")) {
+                asked += sweepOf(method, seed);
+            }
+        }
+        return asked;
+    }
+
+    private static long sweepOf(Method method, int seed) {
+        int count = method.getParameterCount();
+        int ways = 1;
+        for (int i = 0; i < count; i++) {
+            ways *= AT_EDGES.length;
+        }
+        CradleBills x = null;
+        Model model = null;
+        List<String> log = new ArrayList<>();
+        for (int way = 0; way < ways && wrong == 0; way++) {
+            if (way % CALLS_SWEPT == 0) {
+                x = new CradleBills();
+                model = new Model();
+                log.clear();
+                begun(new Random(seed), x, model, log);
+            }
+            Object[] numbers = new Object[count];
+            for (int i = 0, rest = way; i < count; i++, rest /= AT_EDGES.length) {
+                numbers[i] = AT_EDGES[rest % AT_EDGES.length];
+            }
+            compare(log, method.getName() + Arrays.toString(numbers), answer(method, x, numbers), answer(sameOf(method), model, numbers));
+        }
+        if (wrong != 0) {
+            System.out.println("swept, seed " + seed + ":");
+            log.forEach(System.out::println);
+        }
+        return ways;
+    }
+
+    /** A house with all that may be in it, told in some 130 letters, and 40 calls on it. */
+    private static void begun(Random random, CradleBills x, Model model, List<String> log) {
+        StringBuilder text = new StringBuilder();
+        for (int w = 0; w < 6; w++) {
+            text.append("w").append(random.nextInt(4)).append(" ").append(random.nextInt(6)).append(";");
+        }
+        for (int m = 0; m < 5; m++) {
+            text.append("m").append(random.nextInt(100));
+            for (int k = 0; k < 2 + m; k++) {
+                text.append(" ").append(random.nextInt(6));
+            }
+            text.append(";");
+        }
+        for (int b = 0; b < 4; b++) {
+            text.append("b").append(random.nextInt(10)).append(" ").append(random.nextInt(4)).append(" ").append(1 + random.nextInt(9)).append(";");
+        }
+        for (int i = 0; i < text.length(); i++) {
+            compare(log, "type(" + (int) text.charAt(i) + ")", x.type(text.charAt(i)), model.type(text.charAt(i)));
+        }
+        compare(log, "house()", x.house(), model.house());
+        for (int i = 0; i < 40; i++) {
+            anyCall(random, x, model, log);
+        }
+    }
+
+    private static Method sameOf(Method method) {
+        try {
+            return Model.class.getDeclaredMethod(method.getName(), method.getParameterTypes());
+        } catch (NoSuchMethodException none) {
+            throw new IllegalStateException("the model has no " + method.getName(), none);
+        }
+    }
+
+    private static long answer(Method method, Object on, Object[] numbers) {
+        try {
+            return ((Number) method.invoke(on, numbers)).longValue();
+        } catch (ReflectiveOperationException thrown) {
+            throw new IllegalStateException(method.getName() + Arrays.toString(numbers) + " has thrown", thrown);
         }
     }
 
